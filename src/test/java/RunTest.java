@@ -8,6 +8,7 @@ public final class RunTest {
         startAgainGoesOnFromThere();
         shares();
         notParallelIsWorkerZeroAlone();
+        notParallelComesToTheSame();
         stepCounts();
         stepByWrongWorkers();
         stepEndsTheRun();
@@ -18,6 +19,7 @@ public final class RunTest {
         sumsWrap();
         everyOperation();
         lastIterationGivesTheLocal();
+        leastOfWhicheverWorker();
         Check.end();
     }
 
@@ -40,6 +42,8 @@ public final class RunTest {
         x.setScalar(0, 5);
         for (int round = 0; round < 2; round++) {
             Check.due("empty: start", x.start(), true);
+            Check.due("empty: no run, so start again", x.start(), true);
+            Check.due("empty: no run, so drop", x.drop(), LoopWorkers.BAD);
             Check.due("empty: left", x.left(0), 0);
             Check.due("empty: step", x.step(0, 5), 0);
             Check.due("empty: finish", x.finish(), false);
@@ -95,6 +99,28 @@ public final class RunTest {
             }
             Check.due("alone: step 0", x.step(0, 100), 7 * body.length);
             Check.due("alone: the run has ended", x.finish(), false);
+        }
+    }
+
+    /** Scalars of every role, in a loop that a clash of cells leaves to worker 0. */
+    private static void notParallelComesToTheSame() {
+        for (int workers = 1; workers <= 4; workers++) {
+            LoopWorkers x = with(5, workers, new int[][] {
+                {LOAD, 0, 1, 0}, {PLUS, 0, 3, 0}, {STORE, 0, 1, 1}, {PLUS, 1, 0, 0}, {LEAST, 2, 0, 0}});
+            x.setScalar(1, 1000);
+            x.setScalar(2, 50);
+            x.setScalar(3, 10);
+            x.setCell(0, 3);
+            x.start();
+            x.step(0, 7);
+            x.finish();
+            Check.due("not parallel: LOCAL", x.scalar(0), 53);
+            Check.due("not parallel: SUM", x.scalar(1), 1165);
+            Check.due("not parallel: MINIMUM", x.scalar(2), 13);
+            Check.due("not parallel: SHARED", x.scalar(3), 10);
+            for (int k = 0; k < 16; k++) {
+                Check.due("not parallel: cell " + k, x.cell(k), k <= 5 ? 10 * k + 3 : 0);
+            }
         }
     }
 
@@ -277,6 +303,20 @@ public final class RunTest {
                 }
                 Check.due("local after " + iterations + " on " + workers, x.scalar(0), 10 + iterations - 1);
             }
+        }
+    }
+
+    private static void leastOfWhicheverWorker() {
+        for (int at = 0; at < 8; at++) {
+            LoopWorkers x = with(8, 4, new int[][] {{LOAD, 0, 1, 0}, {LEAST, 1, 0, 0}});
+            x.setCell(at, -5);
+            x.start();
+            x.finish();
+            Check.due("the least is in cell " + at, x.scalar(1), -5);
+            x.setScalar(1, -6);
+            x.start();
+            x.finish();
+            Check.due("the least was there before", x.scalar(1), -6);
         }
     }
 
