@@ -1,23 +1,35 @@
-/** Promises 9 to 11: role, clash, parallel. */
+/** Promises 9 to 11 (role, clash, parallel), with a test for every sentence that names a boundary case. */
 public final class AnalysisTest {
     private static final int SET = 0, LOAD = 1, STORE = 2, PLUS = 3, LEAST = 4, INDEX = 5;
     private static final int UNUSED = LoopWorkers.UNUSED, SHARED = LoopWorkers.SHARED, LOCAL = LoopWorkers.LOCAL;
     private static final int SUM = LoopWorkers.SUM, MINIMUM = LoopWorkers.MINIMUM, CARRIED = LoopWorkers.CARRIED;
+    private static final int BAD = LoopWorkers.BAD;
+    private static final int MIN = Integer.MIN_VALUE, MAX = Integer.MAX_VALUE;
+    private static final int[] NO_SCALARS = {MIN, MIN + 1, -4, -1, 4, 5, 256, MAX};
 
     public static void main(String[] args) {
         roles();
-        rolesOfWrongScalars();
-        sameAnswersInARun();
-        clashesOfWrongPlaces();
+        roleOutside();
+        roleOutsideInARun();
+        roleOfDroppedStatements();
+        roleInARun();
         clashesByKind();
         everyClash();
-        oneIterationNeverClashes();
+        clashOutsideAnEmptyBody();
+        clashOutsideEveryBody();
+        clashOfDroppedStatements();
+        clashInARun();
         parallelBodies();
+        parallelFollowsTheBody();
+        parallelInARun();
+        parallelWhateverTheWorkers();
+        lookingChangesNothing();
         Check.end();
     }
 
     /** Statements are {op, x, a, b}; the last four numbers are the roles of scalars 0 .. 3. */
     private static void roles() {
+        Check.sentence("Promise 9", "The role of scalar x");
         role("empty", new int[][] {}, UNUSED, UNUSED, UNUSED, UNUSED);
         role("a of SET, LOAD, STORE, INDEX is no mention",
             new int[][] {{SET, 0, 1, 1}, {LOAD, 0, 1, 2}, {STORE, 0, 1, 3}, {INDEX, 0, 1, 3}}, LOCAL, UNUSED, UNUSED, UNUSED);
@@ -53,52 +65,60 @@ public final class AnalysisTest {
     }
 
     private static void role(String what, int[][] body, int... want) {
-        LoopWorkers x = with(3, 2, body);
+        LoopWorkers x = Loops.with(3, 2, body);
         for (int s = 0; s < 4; s++) {
             Check.due("role of " + s + ": " + what, x.role(s), want[s]);
         }
     }
 
-    private static void rolesOfWrongScalars() {
-        LoopWorkers x = with(3, 2, new int[][] {{SET, 0, 0, 0}});
-        for (int wrong : new int[] {Integer.MIN_VALUE, -1, 4, Integer.MAX_VALUE}) {
-            Check.due("role of " + wrong, x.role(wrong), LoopWorkers.BAD);
+    private static void roleOutside() {
+        Check.sentence("Promise 9", "BAD when x is not 0 .. 3");
+        LoopWorkers empty = new LoopWorkers(8, 4);
+        LoopWorkers x = Loops.with(3, 2, new int[][] {{SET, 0, 0, 0}, {PLUS, 3, 0, 0}});
+        for (int s : NO_SCALARS) {
+            Check.due("role " + s + " in an empty body", empty.role(s), BAD);
+            Check.due("role " + s, x.role(s), BAD);
+        }
+        Check.due("roles", Loops.roles(x), LOCAL, UNUSED, UNUSED, SUM);
+    }
+
+    private static void roleOutsideInARun() {
+        Check.sentence("Promise 9", "BAD when x is not 0 .. 3");
+        LoopWorkers x = Loops.counting(8, 4);
+        x.start();
+        for (int s : NO_SCALARS) {
+            Check.due("role " + s + " in a run", x.role(s), BAD);
         }
     }
 
-    private static void sameAnswersInARun() {
-        LoopWorkers x = with(8, 4, new int[][] {{LOAD, 0, 1, 0}, {STORE, 0, 1, 8}, {STORE, 1, 1, 1}});
-        for (int round = 0; round < 3; round++) {
-            Check.due("role, round " + round, x.role(0), LOCAL);
-            Check.due("role of a wrong scalar, round " + round, x.role(4), LoopWorkers.BAD);
-            Check.due("clash, round " + round, x.clash(0, 2), true);
-            Check.due("no clash, round " + round, x.clash(0, 1), false);
-            Check.due("parallel, round " + round, x.parallel(), false);
-            if (round == 0) {
-                x.start();
-                x.step(0, 5);
-            } else {
-                x.abandon();
-            }
-        }
-    }
-
-    private static void clashesOfWrongPlaces() {
-        LoopWorkers x = with(4, 2, new int[][] {{STORE, 0, 0, 3}, {STORE, 0, 0, 3}});
-        for (int wrong : new int[] {Integer.MIN_VALUE, -1, 2, 3, 6, Integer.MAX_VALUE}) {
-            Check.due("clash(" + wrong + ", 0)", x.clash(wrong, 0), false);
-            Check.due("clash(0, " + wrong + ")", x.clash(0, wrong), false);
-            Check.due("clash(" + wrong + ", " + wrong + ")", x.clash(wrong, wrong), false);
-        }
-        Check.due("clash(0, 1)", x.clash(0, 1), true);
+    private static void roleOfDroppedStatements() {
+        Check.sentence("Promise 9", "The role of scalar x");
+        LoopWorkers x = Loops.with(3, 2, new int[][] {{STORE, 0, 1, 0}, {INDEX, 0, 0, 0}});
+        Check.due("with both", x.role(0), CARRIED);
         x.drop();
-        Check.due("clash with a dropped statement", x.clash(0, 1), false);
-        Check.due("clash with itself", x.clash(0, 0), true);
+        Check.due("with the first", x.role(0), SHARED);
+        x.drop();
+        Check.due("with none", x.role(0), UNUSED);
+        x.add(INDEX, 1, 0, 0);
+        Check.due("beside another in its place", Loops.roles(x), UNUSED, SUM, UNUSED, UNUSED);
+    }
+
+    private static void roleInARun() {
+        Check.sentence("Promise 9", "The role of scalar x");
+        LoopWorkers x = Loops.with(8, 4, new int[][] {{LOAD, 0, 1, 0}, {PLUS, 1, 0, 0}, {LEAST, 2, 0, 0}, {STORE, 3, 1, 8}});
+        int[] want = {LOCAL, SUM, MINIMUM, SHARED};
+        Check.due("before the run", Loops.roles(x), want);
+        x.start();
+        x.step(0, 3);
+        Check.due("in the run", Loops.roles(x), want);
+        x.finish();
+        Check.due("after the run", Loops.roles(x), want);
     }
 
     private static void clashesByKind() {
+        Check.sentence("Promise 10", "Whether the statements p and q clash");
         int[][] kinds = {{SET, 0, 0, 3}, {LOAD, 0, 0, 3}, {STORE, 0, 0, 3}, {PLUS, 0, 0, 3}, {LEAST, 0, 0, 3}, {INDEX, 0, 0, 3}};
-        LoopWorkers x = with(4, 2, kinds);
+        LoopWorkers x = Loops.with(4, 2, kinds);
         for (int p = 0; p < 6; p++) {
             for (int q = 0; q < 6; q++) {
                 boolean want = (p == STORE && (q == STORE || q == LOAD)) || (p == LOAD && q == STORE);
@@ -109,6 +129,7 @@ public final class AnalysisTest {
 
     /** All pairs of cells that add takes, against the cells written out. */
     private static void everyClash() {
+        Check.sentence("Promise 10", "Whether the statements p and q clash");
         for (int iterations = 1; iterations <= 8; iterations++) {
             for (int a = -2; a <= 2; a++) {
                 for (int b = 0; b < 16; b++) {
@@ -149,17 +170,61 @@ public final class AnalysisTest {
         Check.due("parallel: " + what, x.parallel(), !want && !self);
     }
 
-    private static void oneIterationNeverClashes() {
-        LoopWorkers x = with(1, 4, new int[][] {{STORE, 0, 0, 3}, {STORE, 1, 2, 3}, {LOAD, 2, -2, 3}});
-        for (int p = 0; p < 3; p++) {
-            for (int q = 0; q < 3; q++) {
-                Check.due("one iteration: clash(" + p + ", " + q + ")", x.clash(p, q), false);
+    private static void clashOutsideAnEmptyBody() {
+        Check.sentence("Promise 10", "false when p or q is not 0 .. length() - 1");
+        LoopWorkers x = new LoopWorkers(8, 4);
+        for (int p = -1; p <= 6; p++) {
+            for (int q = -1; q <= 6; q++) {
+                Check.due("clash(" + p + ", " + q + ") of none", x.clash(p, q), false);
             }
         }
-        Check.due("one iteration: parallel", x.parallel(), true);
+    }
+
+    private static void clashOutsideEveryBody() {
+        Check.sentence("Promise 10", "false when p or q is not 0 .. length() - 1");
+        for (int size = 1; size <= 6; size++) {
+            LoopWorkers x = new LoopWorkers(8, 4);
+            for (int p = 0; p < size; p++) {
+                x.add(STORE, 0, 0, 3);
+            }
+            for (int p = 0; p < size; p++) {
+                for (int wrong : new int[] {MIN, -1, size, size + 1, 6, 7, MAX}) {
+                    Check.due("clash(" + wrong + ", " + p + ") of " + size, x.clash(wrong, p), false);
+                    Check.due("clash(" + p + ", " + wrong + ") of " + size, x.clash(p, wrong), false);
+                    Check.due("clash(" + wrong + ", " + wrong + ") of " + size, x.clash(wrong, wrong), false);
+                }
+                Check.due("clash(0, " + p + ") of " + size, x.clash(0, p), true);
+                Check.due("clash(" + p + ", " + (size - 1) + ") of " + size, x.clash(p, size - 1), true);
+            }
+        }
+    }
+
+    private static void clashOfDroppedStatements() {
+        Check.sentence("Promise 10", "false when p or q is not 0 .. length() - 1");
+        LoopWorkers x = Loops.with(4, 2, new int[][] {{STORE, 0, 0, 3}, {STORE, 0, 0, 3}});
+        Check.due("clash(0, 1)", x.clash(0, 1), true);
+        x.drop();
+        Check.due("clash(0, 1) with 1 dropped", x.clash(0, 1), false);
+        Check.due("clash(1, 0) with 1 dropped", x.clash(1, 0), false);
+        Check.due("clash(1, 1) with 1 dropped", x.clash(1, 1), false);
+        Check.due("clash(0, 0)", x.clash(0, 0), true);
+        x.drop();
+        Check.due("clash(0, 0) with 0 dropped", x.clash(0, 0), false);
+    }
+
+    private static void clashInARun() {
+        Check.sentence("Promise 10", "Whether the statements p and q clash");
+        LoopWorkers x = Loops.with(8, 4, new int[][] {{LOAD, 0, 1, 0}, {STORE, 0, 1, 8}, {STORE, 1, 1, 1}});
+        x.start();
+        x.step(0, 5);
+        Check.due("clash(0, 2)", x.clash(0, 2), true);
+        Check.due("clash(0, 1)", x.clash(0, 1), false);
+        Check.due("clash(0, 3)", x.clash(0, 3), false);
+        Check.due("clash(-1, 2)", x.clash(-1, 2), false);
     }
 
     private static void parallelBodies() {
+        Check.sentence("Promise 11", "Whether the loop is PARALLEL");
         parallel("nothing", new int[][] {}, true);
         parallel("every role but CARRIED", new int[][] {{LOAD, 0, 1, 0}, {PLUS, 1, 0, 0}, {LEAST, 2, 0, 0}, {STORE, 3, 1, 8}}, true);
         parallel("CARRIED scalar 0", new int[][] {{PLUS, 0, 0, 0}}, false);
@@ -176,7 +241,7 @@ public final class AnalysisTest {
     }
 
     private static void parallel(String what, int[][] body, boolean want) {
-        LoopWorkers x = with(4, 2, body);
+        LoopWorkers x = Loops.with(4, 2, body);
         Check.due("parallel: " + what, x.parallel(), want);
         if (body.length > 0) {
             x.start();
@@ -185,11 +250,57 @@ public final class AnalysisTest {
         }
     }
 
-    private static LoopWorkers with(int iterations, int workers, int[][] body) {
-        LoopWorkers x = new LoopWorkers(iterations, workers);
-        for (int p = 0; p < body.length; p++) {
-            Check.due("add", x.add(body[p][0], body[p][1], body[p][2], body[p][3]), p);
+    private static void parallelFollowsTheBody() {
+        Check.sentence("Promise 11", "Whether the loop is PARALLEL");
+        LoopWorkers x = new LoopWorkers(8, 4);
+        Check.due("of none", x.parallel(), true);
+        x.add(STORE, 0, 1, 0);
+        Check.due("of a STORE", x.parallel(), true);
+        x.add(LOAD, 1, 1, 1);
+        Check.due("with a LOAD that clashes", x.parallel(), false);
+        x.drop();
+        Check.due("without it", x.parallel(), true);
+        x.add(INDEX, 0, 0, 0);
+        Check.due("with a scalar that is CARRIED", x.parallel(), false);
+        x.drop();
+        x.drop();
+        Check.due("of none again", x.parallel(), true);
+    }
+
+    private static void parallelInARun() {
+        Check.sentence("Promise 11", "Whether the loop is PARALLEL");
+        int[][] bodies = {{INDEX, 0, 0, 0}, {PLUS, 0, 0, 0}, {STORE, 0, 0, 0}};
+        for (int n = 0; n < 3; n++) {
+            LoopWorkers x = Loops.with(8, 4, bodies[n]);
+            x.start();
+            Check.due("body " + n + " after the start", x.parallel(), n == 0);
+            x.step(0, 1);
+            Check.due("body " + n + " after a step", x.parallel(), n == 0);
+            x.finish();
+            Check.due("body " + n + " after the run", x.parallel(), n == 0);
         }
-        return x;
+    }
+
+    private static void parallelWhateverTheWorkers() {
+        Check.sentence("Promise 11", "Whether the loop is PARALLEL");
+        for (int workers = 1; workers <= 4; workers++) {
+            Check.due("a SUM on " + workers, Loops.counting(8, workers).parallel(), true);
+            Check.due("one iteration on " + workers, Loops.with(1, workers, new int[] {STORE, 0, 0, 0}).parallel(), true);
+            Check.due("two iterations on " + workers, Loops.with(2, workers, new int[] {STORE, 0, 0, 0}).parallel(), false);
+        }
+    }
+
+    private static void lookingChangesNothing() {
+        Check.sentence("Not promised", "Nothing is promised beyond the answers and state changes described above");
+        LoopWorkers x = Loops.with(8, 4, new int[][] {{LOAD, 0, 1, 0}, {PLUS, 1, 0, 0}, {STORE, 0, 1, 8}});
+        Loops.fill(x);
+        int[] before = Loops.all(x);
+        Check.due("all, looked at again", Loops.all(x), before);
+        x.start();
+        x.step(1, 4);
+        int[] within = Loops.all(x);
+        Check.due("all in the run, looked at again", Loops.all(x), within);
+        x.finish();
+        Check.due("scalar 1", x.scalar(1), 101 - 8 * 200 + 28);
     }
 }
