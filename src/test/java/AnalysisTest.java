@@ -1,4 +1,4 @@
-/** Promises 9 to 11 (role, clash, parallel), with a test for every sentence that names a boundary case. */
+/** A test for every sentence of promises 9 to 11 (role, clash, parallel). */
 public final class AnalysisTest {
     private static final int SET = 0, LOAD = 1, STORE = 2, PLUS = 3, LEAST = 4, INDEX = 5;
     private static final int UNUSED = LoopWorkers.UNUSED, SHARED = LoopWorkers.SHARED, LOCAL = LoopWorkers.LOCAL;
@@ -23,7 +23,6 @@ public final class AnalysisTest {
         parallelFollowsTheBody();
         parallelInARun();
         parallelWhateverTheWorkers();
-        lookingChangesNothing();
         Check.end();
     }
 
@@ -288,19 +287,5 @@ public final class AnalysisTest {
             Check.due("one iteration on " + workers, Loops.with(1, workers, new int[] {STORE, 0, 0, 0}).parallel(), true);
             Check.due("two iterations on " + workers, Loops.with(2, workers, new int[] {STORE, 0, 0, 0}).parallel(), false);
         }
-    }
-
-    private static void lookingChangesNothing() {
-        Check.sentence("Not promised", "Nothing is promised beyond the answers and state changes described above");
-        LoopWorkers x = Loops.with(8, 4, new int[][] {{LOAD, 0, 1, 0}, {PLUS, 1, 0, 0}, {STORE, 0, 1, 8}});
-        Loops.fill(x);
-        int[] before = Loops.all(x);
-        Check.due("all, looked at again", Loops.all(x), before);
-        x.start();
-        x.step(1, 4);
-        int[] within = Loops.all(x);
-        Check.due("all in the run, looked at again", Loops.all(x), within);
-        x.finish();
-        Check.due("scalar 1", x.scalar(1), 101 - 8 * 200 + 28);
     }
 }

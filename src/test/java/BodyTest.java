@@ -1,4 +1,4 @@
-/** A test for every sentence of promises 1 to 4 (a new object, add, drop, length) that names a boundary case. */
+/** A test for every sentence of promises 1 to 4 (a new object, add, drop, length). */
 public final class BodyTest {
     private static final int SET = 0, LOAD = 1, STORE = 2, PLUS = 3, LEAST = 4, INDEX = 5;
     private static final int BAD = LoopWorkers.BAD, FULL = LoopWorkers.FULL, BUSY = LoopWorkers.BUSY;
@@ -21,6 +21,7 @@ public final class BodyTest {
         workersClampedFromAbove();
         workersBetweenAreKept();
         addAnswersThePlace();
+        addAppendsBehindTheOthers();
         addIsBusyInARun();
         addRefusesOtherOps();
         addRefusesOtherScalars();
@@ -144,6 +145,23 @@ public final class BodyTest {
             Check.due("place of op " + p, x.add(body[p][0], body[p][1], body[p][2], body[p][3]), p);
             Check.due("length", x.length(), p + 1);
         }
+    }
+
+    private static void addAppendsBehindTheOthers() {
+        Check.sentence("Promise 2", "Appends a statement to the body");
+        LoopWorkers x = new LoopWorkers(1, 1);
+        for (int p = 0; p < 3; p++) {
+            x.add(SET, 0, 10 * p, 0);
+            x.add(STORE, 0, 0, p);
+        }
+        Loops.fill(x);
+        Loops.run(x);
+        int[] want = Loops.filledCells();
+        for (int p = 0; p < 3; p++) {
+            want[p] = 10 * p;
+        }
+        Check.due("cells, each stored before the next SET", Loops.cells(x), want);
+        Check.due("scalars", Loops.scalars(x), 20, 101, 102, 103);
     }
 
     private static void addIsBusyInARun() {

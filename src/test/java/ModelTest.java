@@ -210,22 +210,7 @@ public final class ModelTest {
                 }
             }
             left = null;
-            for (int i = 0; i < iterations; i++) {
-                for (int[] s : body) {
-                    carryOut(s[0], s[1], s[2], s[3], i);
-                }
-            }
-        }
-
-        void carryOut(int op, int x, int a, int b, int i) {
-            switch (op) {
-                case 0 -> scalars[x] = a;
-                case 1 -> scalars[x] = cells[a * i + b];
-                case 2 -> cells[a * i + b] = scalars[x];
-                case 3 -> scalars[x] = scalars[x] + scalars[a];
-                case 4 -> scalars[x] = Math.min(scalars[x], scalars[a]);
-                default -> scalars[x] = scalars[x] + i;
-            }
+            PlainLoop.carryOut(body, iterations, scalars, cells);
         }
     }
 
@@ -289,7 +274,7 @@ public final class ModelTest {
             start(at, x, m);
         } else if (kind < 90) {
             int w = near(r, 4);
-            int n = r.nextInt(12) - 2;
+            int n = r.nextInt(30) == 0 ? far(r) : r.nextInt(12) - 2;
             Check.due(at + "step " + w + " " + n, x.step(w, n), m.step(w, n));
         } else if (kind < 94) {
             int w = near(r, 4);
@@ -322,9 +307,17 @@ public final class ModelTest {
         Check.due(at + "add " + op + " " + s + " " + a + " " + b, x.add(op, s, a, b), m.add(op, s, a, b));
     }
 
-    /** Mostly 0 .. bound - 1, now and then just outside. */
+    /** Mostly 0 .. bound - 1, now and then just outside or far away. */
     private static int near(Random r, int bound) {
-        return r.nextInt(12) == 0 ? r.nextInt(bound + 4) - 2 : r.nextInt(bound);
+        int kind = r.nextInt(48);
+        if (kind == 0) {
+            return far(r);
+        }
+        return kind < 4 ? r.nextInt(bound + 4) - 2 : r.nextInt(bound);
+    }
+
+    private static int far(Random r) {
+        return r.nextBoolean() ? Integer.MAX_VALUE - r.nextInt(3) : Integer.MIN_VALUE + r.nextInt(3);
     }
 
     private static int value(Random r) {

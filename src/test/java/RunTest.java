@@ -1,4 +1,4 @@
-/** A test for every sentence of promises 12 to 16 (start, step, left, finish, abandon) that names a boundary case. */
+/** A test for every sentence of promises 12 to 16 (start, step, left, finish, abandon). */
 public final class RunTest {
     private static final int SET = 0, LOAD = 1, STORE = 2, PLUS = 3, LEAST = 4, INDEX = 5;
     private static final int BAD = LoopWorkers.BAD, BUSY = LoopWorkers.BUSY;
@@ -316,6 +316,13 @@ public final class RunTest {
             x.step(1, 1);
         }
         Check.due("left", Loops.lefts(x), 0, 0, 0, 0);
+        x.start();
+        x.step(0, 5);
+        Check.due("left after a step of five", Loops.lefts(x), 7, 12, 0, 0);
+        x.step(1, 9);
+        Check.due("left after a step of nine", Loops.lefts(x), 7, 3, 0, 0);
+        x.step(1, 9);
+        Check.due("left after as many as there were", Loops.lefts(x), 7, 0, 0, 0);
     }
 
     private static void leftWithoutARun() {

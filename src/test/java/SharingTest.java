@@ -1,4 +1,4 @@
-/** A test for every sentence of "Terms" about a RUN that names a boundary case. */
+/** A test for every sentence of "Terms" about a RUN. */
 public final class SharingTest {
     private static final int SET = 0, LOAD = 1, STORE = 2, PLUS = 3, LEAST = 4, INDEX = 5;
 
@@ -250,6 +250,15 @@ public final class SharingTest {
         x.setScalar(0, -1);
         Loops.run(x);
         Check.due("scalar 0 after it was set", x.scalar(0), 5);
+        LoopWorkers y = Loops.with(4, 3, new int[][] {{LOAD, 0, 1, 0}, {PLUS, 0, 0, 0}, {STORE, 0, 1, 0}});
+        y.setCell(3, 1);
+        for (int round = 1; round <= 5; round++) {
+            Loops.run(y);
+            Check.due("cell 3 after run " + round, y.cell(3), 1 << round);
+        }
+        y.setCell(3, 5);
+        Loops.run(y);
+        Check.due("cell 3 after it was set", y.cell(3), 10);
     }
 
     private static void untilThenTheyShowWhatTheyWere() {

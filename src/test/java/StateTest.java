@@ -1,4 +1,4 @@
-/** A test for every sentence of promises 5 to 8 (setScalar, setCell, scalar, cell) that names a boundary case. */
+/** A test for every sentence of promises 5 to 8 (setScalar, setCell, scalar, cell). */
 public final class StateTest {
     private static final int SET = 0, LOAD = 1, STORE = 2, INDEX = 5;
     private static final int MIN = Integer.MIN_VALUE, MAX = Integer.MAX_VALUE;

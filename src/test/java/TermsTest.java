@@ -1,4 +1,4 @@
-/** A test for every sentence of "What it is" and "Terms" that names a boundary case, up to where runs begin. */
+/** A test for every sentence of "Terms", up to where runs begin. */
 public final class TermsTest {
     private static final int SET = 0, LOAD = 1, STORE = 2, PLUS = 3, LEAST = 4, INDEX = 5;
     private static final int UNUSED = LoopWorkers.UNUSED, SHARED = LoopWorkers.SHARED, LOCAL = LoopWorkers.LOCAL;
@@ -6,7 +6,6 @@ public final class TermsTest {
     private static final int MIN = Integer.MIN_VALUE, MAX = Integer.MAX_VALUE;
 
     public static void main(String[] args) {
-        the512thCall();
         allZeroAtFirst();
         scalarsAndCellsAreInts();
         atMostSixStatements();
@@ -14,7 +13,7 @@ public final class TermsTest {
         setTakesAnyNumber();
         loadAtTheEdges();
         storeAtTheEdges();
-        plusOfItself();
+        plusOfAnotherAndOfItself();
         leastOfTheFarthestAndOfEquals();
         indexInIterationZero();
         sumsWrap();
@@ -35,21 +34,6 @@ public final class TermsTest {
         parallelUnlessCarried();
         parallelUnlessAClash();
         Check.end();
-    }
-
-    private static void the512thCall() {
-        Check.sentence("What it is", "An object is used for at most 512 calls after it has been made");
-        LoopWorkers x = new LoopWorkers(8, 4);
-        x.add(INDEX, 0, 0, 0);
-        for (int round = 1; round <= 255; round++) {
-            x.start();
-            x.finish();
-        }
-        Check.due("the 512th call", x.scalar(0), 255 * 28);
-        // What it answers from here on is free, but it must answer.
-        x.start();
-        x.step(3, 2);
-        x.finish();
     }
 
     private static void allZeroAtFirst() {
@@ -98,6 +82,14 @@ public final class TermsTest {
                 Check.due("the cell after the last of " + iterations, x.cell(8 + iterations), 8 + iterations - 200);
             }
             Check.due("cells after " + iterations, Loops.cells(x), want);
+            LoopWorkers alone = Loops.with(iterations, 4, new int[][] {{PLUS, 1, 1, 0}, {INDEX, 1, 0, 0}});
+            alone.setScalar(1, 1);
+            Loops.run(alone);
+            int sum = 1;
+            for (int i = 0; i < iterations; i++) {
+                sum = 2 * sum + i;
+            }
+            Check.due("scalar 1 after " + iterations + ", by worker 0 alone", alone.scalar(1), sum);
         }
     }
 
@@ -141,8 +133,18 @@ public final class TermsTest {
         }
     }
 
-    private static void plusOfItself() {
+    private static void plusOfAnotherAndOfItself() {
         Check.sentence("Terms", "scalar x becomes scalar x + scalar a (b is not used)");
+        for (int s = 0; s < 4; s++) {
+            for (int t = 0; t < 4; t++) {
+                LoopWorkers one = Loops.with(1, 1, new int[][] {{PLUS, s, t, 3 - t}});
+                Loops.fill(one);
+                Loops.run(one);
+                int[] want = Loops.filledScalars();
+                want[s] += 100 + t;
+                Check.due("scalars after " + s + " PLUS " + t, Loops.scalars(one), want);
+            }
+        }
         LoopWorkers x = Loops.with(3, 2, new int[][] {{PLUS, 3, 3, 1}});
         x.setScalar(1, 1000);
         x.setScalar(3, 5);
@@ -270,6 +272,9 @@ public final class TermsTest {
         for (int[] spoiler : spoilers) {
             Check.due("PLUS, then op " + spoiler[0], Loops.with(3, 2, plus, spoiler).role(2), CARRIED);
             Check.due("INDEX, then op " + spoiler[0], Loops.with(3, 2, index, spoiler).role(2), CARRIED);
+            int behind = spoiler[0] == SET || spoiler[0] == LOAD ? LOCAL : CARRIED;
+            Check.due("op " + spoiler[0] + ", then PLUS", Loops.with(3, 2, spoiler, plus).role(2), behind);
+            Check.due("op " + spoiler[0] + ", then INDEX", Loops.with(3, 2, spoiler, index).role(2), behind);
         }
         Check.due("PLUS of itself alone", Loops.with(3, 2, new int[] {PLUS, 2, 2, 0}).role(2), CARRIED);
     }
@@ -285,6 +290,8 @@ public final class TermsTest {
             {INDEX, 2, 0, 0}, {STORE, 2, 1, 0}, {SET, 2, 0, 0}, {LOAD, 2, 1, 0}};
         for (int[] spoiler : spoilers) {
             Check.due("LEAST, then op " + spoiler[0], Loops.with(3, 2, least, spoiler).role(2), CARRIED);
+            int behind = spoiler[0] == SET || spoiler[0] == LOAD ? LOCAL : CARRIED;
+            Check.due("op " + spoiler[0] + ", then LEAST", Loops.with(3, 2, spoiler, least).role(2), behind);
         }
         Check.due("LEAST of itself alone", Loops.with(3, 2, new int[] {LEAST, 2, 2, 0}).role(2), CARRIED);
     }
